@@ -50,9 +50,17 @@ public final class EditorBox {
   private static final int FAILED = 1;
   private static final int THROWN = 2;
 
-  // Symbols told in the document, in the order of WORDS.
-  private static final String WORDS = "nil t quote setq if cond while progn and or let let* lambda defun defmacro defvar catch condition-case unwind-protect save-excursion macro &optional &rest keymap global-map last-key";
-  private static final String CONDITIONS = "error circular heap-full too-many-markers read-error too-many-symbols too-long fuel depth void-variable void-function bad-form wrong-number-of-args no-catch out-of-range wrong-type arith constant too-many-buffers buffer-full end-of-buffer beginning-of-buffer search-failed";
+  // The words told in the document, and below them their symbols in the same order.
+  private static final String WORDS = "nil t";
+  private static final String SPECIAL_FORMS =
+      "quote setq if cond while progn and or let let* lambda defun defmacro defvar catch condition-case unwind-protect save-excursion";
+  private static final String MARKS = "macro &optional &rest keymap global-map last-key";
+  private static final String CONDITIONS =
+      "error circular heap-full too-many-markers read-error too-many-symbols too-long fuel depth";
+  private static final String MORE_CONDITIONS =
+      "void-variable void-function bad-form wrong-number-of-args no-catch out-of-range wrong-type arith constant";
+  private static final String EDITOR_CONDITIONS =
+      "too-many-buffers buffer-full end-of-buffer beginning-of-buffer search-failed";
   private static final int NIL = 0 << 3;
   private static final int T = 1 << 3;
   private static final int QUOTE = 2 << 3;
@@ -107,15 +115,22 @@ public final class EditorBox {
   // n any list, c cons, m marker, b buffer, p place, q proper list or string, g what can be inserted;
   // a great letter may be missing or NIL, * stands behind what may come any number of times.
   private static final String CONTROL_TABLE = "funcall:vv* apply:vl eval:v mapcar:vl throw:vv signal:yv error:s";
-  private static final String LIST_TABLE = "cons:vv car:n cdr:n setcar:cv setcdr:cv list:v* nth:in nthcdr:in length:q reverse:l append:lv memq:vl member:vl assq:vl assoc:vl";
+  private static final String LIST_TABLE =
+      "cons:vv car:n cdr:n setcar:cv setcdr:cv list:v* nth:in nthcdr:in length:q reverse:l append:lv memq:vl member:vl assq:vl assoc:vl";
   private static final String TEST_TABLE = "eq:vv equal:vv null:v consp:v symbolp:v intp:v stringp:v";
   private static final String NUMBER_TABLE = "+:i* *:i* -:ii* /:ii %:ii <:ii >:ii =:ii logand:ii logior:ii shift:ii";
-  private static final String SYMBOL_TABLE = "set:yv symbol-value:y boundp:y fset:yv symbol-function:y symbol-name:y intern:s";
-  private static final String STRING_TABLE = "concat:s* substring:sii string=:ss string<:ss sign:si string:i number:s print:v";
-  private static final String BUFFER_TABLE = "buffer:s set-buffer:b current-buffer: buffer-name:b point: point-max: goto-char:p insert:g* delete-region:pp region:pp undo: boundary: modified: set-modified:v";
-  private static final String MOVE_TABLE = "char-after:P char-before:P bolp: eolp: forward-char:I forward-line:I beginning-of-line: end-of-line: search-forward:sV search-backward:sV skip-forward:s column: line:";
-  private static final String MARK_TABLE = "marker:p set-marker:mp marker-place:m marker-moves:mv put-face:ppi face:p make-map: define-key:vsv lookup-key:vs use-map:v";
-  private static final String WINDOW_TABLE = "split-below: split-right: other-window: delete-window: delete-other-windows: show-buffer:b window-start: set-window-start:p message:s";
+  private static final String SYMBOL_TABLE =
+      "set:yv symbol-value:y boundp:y fset:yv symbol-function:y symbol-name:y intern:s";
+  private static final String STRING_TABLE =
+      "concat:s* substring:sii string=:ss string<:ss sign:si string:i number:s print:v";
+  private static final String BUFFER_TABLE =
+      "buffer:s set-buffer:b current-buffer: buffer-name:b point: point-max: goto-char:p insert:g* delete-region:pp region:pp undo: boundary: modified: set-modified:v";
+  private static final String MOVE_TABLE =
+      "char-after:P char-before:P bolp: eolp: forward-char:I forward-line:I beginning-of-line: end-of-line: search-forward:sV search-backward:sV skip-forward:s column: line:";
+  private static final String MARK_TABLE =
+      "marker:p set-marker:mp marker-place:m marker-moves:mv put-face:ppi face:p make-map: define-key:vsv lookup-key:vs use-map:v";
+  private static final String WINDOW_TABLE =
+      "split-below: split-right: other-window: delete-window: delete-other-windows: show-buffer:b window-start: set-window-start:p message:s";
 
   // The primitives' numbers, in the order of the tables.
   private static final int FIRST_CONTROL = 0;
@@ -235,9 +250,8 @@ public final class EditorBox {
   private final Symbols names;
   private final Desk desk;
   private final Panes panes;
-  private final Printer printer;
+  private final Script script;
   private final Screen screen;
-  private final Reader reader;
   private final Edits edits;
   private final Machine machine;
   private final int[] waiting = new int[MOST_KEYS + 1];
@@ -255,11 +269,10 @@ public final class EditorBox {
     names = new Symbols(heap, levels);
     desk = new Desk();
     panes = new Panes(desk, high - 1, wide);
-    printer = new Printer(heap, names, desk);
-    screen = new Screen(desk, panes, printer, high, wide);
-    reader = new Reader(heap, names);
+    script = new Script(heap, names, desk);
+    screen = new Screen(desk, panes, script, high, wide);
     Args args = new Args(heap, names, desk, stackRoom(most, levels));
-    Values values = new Values(heap, names, args, printer);
+    Values values = new Values(heap, names, args, script);
     edits = new Edits(heap, args, desk, panes, screen);
     machine = new Machine(heap, names, args, values, edits, most, levels);
     names.assign(GLOBAL_MAP, heap.cons(KEYMAP, NIL));
@@ -268,37 +281,37 @@ public final class EditorBox {
   }
 
   public int feed(int a, int b, int c, int d, int e) {
-    reader.add(a);
-    reader.add(b);
-    reader.add(c);
-    reader.add(d);
-    reader.add(e);
-    return reader.size;
+    script.add(a);
+    script.add(b);
+    script.add(c);
+    script.add(d);
+    script.add(e);
+    return script.tapeSize;
   }
 
   public boolean end(int n) {
-    if (n < 0 || n > reader.size) {
+    if (n < 0 || n > script.tapeSize) {
       return false;
     }
-    reader.size = n;
+    script.tapeSize = n;
     return true;
   }
 
   public int load() {
     begin(NIL);
-    reader.rewind();
+    script.rewind();
     for (int things = 0; things <= TAPE; things++) {
-      int thing = reader.next();
-      if (reader.ended || heap.trouble != NOTHING) {
+      int thing = script.next();
+      if (script.ended || heap.trouble != NOTHING) {
         break;
       }
-      machine.startThing(thing);
+      machine.evaluate(thing);
       machine.spin();
       if (heap.trouble != NOTHING) {
         break;
       }
     }
-    reader.size = 0;
+    script.tapeSize = 0;
     return finish();
   }
 
@@ -322,7 +335,7 @@ public final class EditorBox {
     if (binding != NIL) {
       waits = 0;
       names.assign(LAST_KEY, number(k));
-      machine.startCall(begin(binding));
+      machine.callWithNothing(begin(binding));
       machine.spin();
       return finish();
     }
@@ -383,7 +396,7 @@ public final class EditorBox {
       case 7: return screen.cursorRow;
       case 8: return screen.cursorColumn;
       case 9: return waits;
-      case 10: return reader.size;
+      case 10: return script.tapeSize;
       case 11: return desk.markers();
       default: return NONE;
     }
@@ -425,18 +438,18 @@ public final class EditorBox {
   }
 
   private void tellError() {
-    printer.clear();
+    script.clear();
     if (heap.cause == ERROR && isString(heap.datum)) {
-      printer.putString(heap.datum);
+      script.putString(heap.datum);
     } else {
-      printer.putName(heap.cause);
+      script.putName(heap.cause);
       if (heap.datum != NIL) {
-        printer.put(':');
-        printer.put(' ');
-        printer.print(heap.datum);
+        script.put(':');
+        script.put(' ');
+        script.print(heap.datum);
       }
     }
-    screen.tell(printer.signs, printer.size);
+    screen.tell(script.signs, script.size);
   }
 
   private int bindingOfWaiting() {
@@ -445,14 +458,14 @@ public final class EditorBox {
   }
 
   private void tellKeys(boolean undefined) {
-    printer.clear();
+    script.clear();
     for (int i = 0; i < waits && i < waiting.length; i++) {
-      printer.putVisible(waiting[i]);
+      script.putVisible(waiting[i]);
     }
     if (undefined) {
-      printer.putText(" undefined");
+      script.putText(" undefined");
     }
-    screen.tell(printer.signs, printer.size);
+    screen.tell(script.signs, script.size);
     screen.show();
   }
 
@@ -538,17 +551,16 @@ public final class EditorBox {
       return NIL;
     }
 
-    /** Whether so many cells can be made at once; an error if not. */
-    boolean hasRoom(int cells) {
-      if (cells < 0 || cells > CELLS - top) {
-        fail(HEAP_FULL, NIL);
-        return false;
-      }
-      return true;
+    /** How many cells the command may still make. */
+    int free() {
+      return CELLS - top;
     }
 
     private int grab(int cells) {
-      if (!hasRoom(cells)) {
+      if (cells < 0 || cells > CELLS - top) {
+        trouble = FAILED;
+        cause = HEAP_FULL;
+        datum = NIL;
         return NONE;
       }
       int at = top;
@@ -613,10 +625,11 @@ public final class EditorBox {
         if (at == NIL) {
           return n;
         }
-        if ((at & 7) != CONS) {
+        int cell = at >> 3;
+        if ((at & 7) != CONS || cell < 0 || cell >= top) {
           return NONE;
         }
-        at = cdr(at);
+        at = cdrs[cell];
       }
       return NONE;
     }
@@ -654,8 +667,9 @@ public final class EditorBox {
     }
 
     int signAt(int string, int i) {
-      int cell = (string >> 3) + 1 + (i >> 3);
-      if (i < 0 || i >= size(string) || cell < 0 || cell >= top) {
+      int at = string >> 3;
+      int cell = at + 1 + (i >> 3);
+      if ((string & 7) != STRING || at < 0 || i < 0 || cell >= top || i >= cars[at] >> 3) {
         return 0;
       }
       int part = (i & 4) == 0 ? cars[cell] : cdrs[cell];
@@ -704,7 +718,9 @@ public final class EditorBox {
 
     void beginMoves() {
       Arrays.fill(moved, 0);
-      Arrays.fill(reached, false);
+      for (int i = 0; i < MARKERS; i++) {
+        reached[i] = false;
+      }
       spareTop = 0;
     }
 
@@ -783,7 +799,11 @@ public final class EditorBox {
       Arrays.fill(codes, NONE);
       Arrays.fill(values, VOID);
       addWords(WORDS);
+      addWords(SPECIAL_FORMS);
+      addWords(MARKS);
       addWords(CONDITIONS);
+      addWords(MORE_CONDITIONS);
+      addWords(EDITOR_CONDITIONS);
       addPrimitives(CONTROL_TABLE, FIRST_CONTROL);
       addPrimitives(LIST_TABLE, FIRST_LIST);
       addPrimitives(TEST_TABLE, FIRST_TEST);
@@ -895,7 +915,7 @@ public final class EditorBox {
     }
 
     private boolean isOne(int symbol) {
-      return isSymbol(symbol) && symbol >= 0 && symbol >> 3 < count;
+      return (symbol & 7) == SYMBOL && symbol >= 0 && symbol >> 3 < count;
     }
 
     /** Puts a symbol's name on the pad; answers how many signs it has. */
@@ -958,7 +978,10 @@ public final class EditorBox {
     void unbind(int to) {
       while (bound > to && bound > 0) {
         bound--;
-        assign(boundNames[bound], boundValues[bound]);
+        int at = boundNames[bound] >> 3;
+        if (at >= 0 && at < count) {
+          values[at] = boundValues[bound];
+        }
       }
     }
 
@@ -1402,7 +1425,7 @@ public final class EditorBox {
     }
 
     int shows(int leaf) {
-      return isNode(leaf) ? buffers[leaf] : 0;
+      return leaf >= 0 && leaf < NODES ? buffers[leaf] : 0;
     }
 
     int start(int leaf) {
@@ -1604,19 +1627,246 @@ public final class EditorBox {
     }
   }
 
-  /** A row of up to 200 signs in which values are printed, and other lines put together. */
-  private static final class Printer {
+  /** The tape from which values are read, and the row of up to 200 signs in which they are printed. */
+  private static final class Script {
+    private static final int QUOTED = -1;
+    private static final int NO_DOT = 0;
+    private static final int DOT = 1;
+    private static final int LAST_CDR = 2;
+    int tapeSize;
+    boolean ended;
     final byte[] signs = new byte[MOST_PRINTED];
     int size;
     private final Heap heap;
     private final Symbols names;
     private final Desk desk;
+    private final byte[] tape = new byte[TAPE];
+    private int at;
+    private final int[] items = new int[TAPE + 2];
+    private int count;
+    private final int[] firstItems = new int[NESTING];
+    private final int[] dots = new int[NESTING];
+    private int open;
     private final int[] lists = new int[MOST_PRINTED + 1];
+    private int following;
 
-    Printer(Heap heap, Symbols names, Desk desk) {
+    Script(Heap heap, Symbols names, Desk desk) {
       this.heap = heap;
       this.names = names;
       this.desk = desk;
+    }
+
+    void add(int four) {
+      for (int shift = 24; shift >= 0; shift -= 8) {
+        if (tapeSize < TAPE) {
+          tape[tapeSize] = (byte) (four >> shift & 127);
+          tapeSize++;
+        }
+      }
+    }
+
+    void rewind() {
+      at = 0;
+    }
+
+    /** The next thing of the tape; ended if there is none. */
+    int next() {
+      count = 0;
+      open = 0;
+      ended = false;
+      for (int turn = 0; turn <= TAPE; turn++) {
+        passBlanks();
+        if (at >= tapeSize && open == 0) {
+          ended = true;
+          return NIL;
+        }
+        int thing = at < tapeSize ? readPart(tape[at]) : broken();
+        if (thing != VOID) {
+          thing = quoteWaiting(thing);
+        }
+        if (heap.trouble != NOTHING) {
+          return NIL;
+        }
+        if (thing != VOID && open == 0) {
+          return thing;
+        }
+        if (thing != VOID) {
+          keep(thing);
+        }
+      }
+      return NIL;
+    }
+
+    private int broken() {
+      heap.fail(READ_ERROR, NIL);
+      return VOID;
+    }
+
+    private static boolean isBlank(int sign) {
+      return sign == 32 || sign == 9 || sign == 10 || sign == 13;
+    }
+
+    private void passBlanks() {
+      boolean remark = false;
+      while (at < tapeSize && (remark || isBlank(tape[at]) || tape[at] == ';')) {
+        remark = (remark || tape[at] == ';') && tape[at] != 10 && tape[at] != 13;
+        at++;
+      }
+    }
+
+    /** Reads up to where a thing is whole, or VOID where a list or a ' is only begun. */
+    private int readPart(int sign) {
+      if (sign != ')' && open > 0 && dots[open - 1] == LAST_CDR) {
+        return broken();
+      }
+      switch (sign) {
+        case '(':
+          at++;
+          return begin(count);
+        case '\'':
+          at++;
+          return begin(QUOTED);
+        case ')':
+          at++;
+          return close();
+        case '"':
+          at++;
+          return readString();
+        case '?':
+          at++;
+          return readSign();
+        default:
+          return readToken();
+      }
+    }
+
+    private int begin(int first) {
+      if (open >= NESTING) {
+        return broken();
+      }
+      firstItems[open] = first;
+      dots[open] = NO_DOT;
+      open++;
+      return VOID;
+    }
+
+    private boolean inList() {
+      return open > 0 && firstItems[open - 1] != QUOTED;
+    }
+
+    private int close() {
+      if (!inList() || dots[open - 1] == DOT) {
+        return broken();
+      }
+      open--;
+      int first = firstItems[open];
+      int n = count - first;
+      boolean dotted = dots[open] == LAST_CDR && n > 0;
+      int made = heap.list(items, first, dotted ? n - 1 : n, dotted ? items[count - 1] : NIL);
+      count = first;
+      return made;
+    }
+
+    private int quoteWaiting(int thing) {
+      int made = thing;
+      while (open > 0 && firstItems[open - 1] == QUOTED && heap.trouble == NOTHING) {
+        open--;
+        if (count <= TAPE) {
+          items[count] = QUOTE;
+          items[count + 1] = made;
+        }
+        made = heap.list(items, count, 2, NIL);
+      }
+      return made;
+    }
+
+    private void keep(int thing) {
+      if (count < TAPE && open > 0) {
+        items[count] = thing;
+        count++;
+        if (dots[open - 1] == DOT) {
+          dots[open - 1] = LAST_CDR;
+        }
+      }
+    }
+
+    private static int escaped(int sign) {
+      if (sign == 'n') {
+        return 10;
+      }
+      return sign == 't' ? 9 : sign;
+    }
+
+    private int readString() {
+      int n = 0;
+      boolean behind = false;
+      while (at < tapeSize && n < heap.pad.length && (behind || tape[at] != '"')) {
+        int sign = tape[at];
+        at++;
+        if (sign == '\\' && !behind) {
+          behind = true;
+        } else {
+          heap.pad[n] = (byte) (behind ? escaped(sign) : sign);
+          n++;
+          behind = false;
+        }
+      }
+      if (at >= tapeSize) {
+        return broken();
+      }
+      at++;
+      if (n > MOST_STRING) {
+        heap.fail(TOO_LONG, NIL);
+        return VOID;
+      }
+      return heap.string(heap.pad, 0, n);
+    }
+
+    private int readSign() {
+      boolean behind = at < tapeSize && tape[at] == '\\';
+      if (behind) {
+        at++;
+      }
+      if (at >= tapeSize) {
+        return broken();
+      }
+      int sign = tape[at];
+      at++;
+      return number(behind ? escaped(sign) : sign);
+    }
+
+    private static boolean endsToken(int sign) {
+      return isBlank(sign) || sign == '(' || sign == ')' || sign == '\'' || sign == '"' || sign == ';';
+    }
+
+    private int readToken() {
+      int from = at;
+      while (at < tapeSize && !endsToken(tape[at])) {
+        at++;
+      }
+      int n = at - from;
+      if (n == 1 && tape[from] == '.') {
+        return readDot();
+      }
+      if (isDigits(tape, from, n)) {
+        return numberOf(tape, from, n);
+      }
+      if (n > MOST_NAME) {
+        return broken();
+      }
+      int symbol = names.intern(tape, from, n);
+      if (symbol == VOID) {
+        heap.fail(TOO_MANY_SYMBOLS, NIL);
+      }
+      return symbol;
+    }
+
+    private int readDot() {
+      if (!inList() || dots[open - 1] != NO_DOT || count <= firstItems[open - 1]) {
+        return broken();
+      }
+      dots[open - 1] = DOT;
+      return VOID;
     }
 
     void clear() {
@@ -1637,8 +1887,9 @@ public final class EditorBox {
     }
 
     void putRow(byte[] row, int n) {
-      for (int i = 0; i < n && i < row.length; i++) {
-        put(row[i]);
+      for (int i = 0; i < n && i < row.length && size < MOST_PRINTED; i++) {
+        signs[size] = row[i];
+        size++;
       }
     }
 
@@ -1694,7 +1945,7 @@ public final class EditorBox {
     private void putAtom(int v) {
       switch (v & 7) {
         case SYMBOL:
-          putName(v);
+          putRow(heap.pad, names.nameToPad(v));
           break;
         case INT:
           putNumber(intOf(v));
@@ -1735,24 +1986,26 @@ public final class EditorBox {
           putAtom(v);
           depth = closeLists(depth);
           more = depth > 0;
-          v = more ? heap.car(lists[depth - 1]) : NIL;
+          v = following;
         }
       }
     }
 
-    /** Goes on to the next thing of the innermost list that has one, closing those that have none. */
+    /** Closes the lists that have nothing more; following is then the next thing of the innermost open one. */
     private int closeLists(int open) {
       int depth = open;
       while (depth > 0 && depth <= lists.length) {
         int rest = heap.cdr(lists[depth - 1]);
-        if (isCons(rest)) {
-          put(' ');
-          lists[depth - 1] = rest;
-          return depth;
-        }
         if (rest != NIL) {
-          putText(" . ");
-          putAtom(rest);
+          put(' ');
+          if (!isCons(rest)) {
+            put('.');
+            put(' ');
+          }
+          following = isCons(rest) ? heap.car(rest) : rest;
+          // Behind a last cdr nothing comes: NIL has no cdr.
+          lists[depth - 1] = isCons(rest) ? rest : NIL;
+          return depth;
         }
         put(')');
         depth--;
@@ -1771,15 +2024,15 @@ public final class EditorBox {
     int cursorColumn;
     private final Desk desk;
     private final Panes panes;
-    private final Printer printer;
+    private final Script script;
     private final int rows;
     private final int columns;
     private final int[] grid;
 
-    Screen(Desk desk, Panes panes, Printer printer, int rows, int columns) {
+    Screen(Desk desk, Panes panes, Script script, int rows, int columns) {
       this.desk = desk;
       this.panes = panes;
-      this.printer = printer;
+      this.script = script;
       this.rows = rows;
       this.columns = columns;
       grid = new int[rows * columns];
@@ -1881,18 +2134,18 @@ public final class EditorBox {
 
     private void drawModeLine(int leaf, Text text) {
       int point = panes.point(leaf);
-      printer.clear();
-      printer.put('-');
-      printer.put(text.modified ? '*' : '-');
-      printer.put(' ');
-      printer.putRow(text.name, text.nameSize);
-      printer.putText(" L");
-      printer.putNumber(1 + text.lines(1, point));
-      printer.putText(" C");
-      printer.putNumber(point - text.lineStart(point));
+      script.clear();
+      script.put('-');
+      script.put(text.modified ? '*' : '-');
+      script.put(' ');
+      script.putRow(text.name, text.nameSize);
+      script.putText(" L");
+      script.putNumber(1 + text.lines(1, point));
+      script.putText(" C");
+      script.putNumber(point - text.lineStart(point));
       int row = panes.top(leaf) + panes.high(leaf) - 1;
       for (int i = 0; i < panes.wide(leaf); i++) {
-        set(row, panes.left(leaf) + i, i < printer.size && i < MOST_PRINTED ? printer.signs[i] : '-', BRIGHT);
+        set(row, panes.left(leaf) + i, i < script.size && i < MOST_PRINTED ? script.signs[i] : '-', BRIGHT);
       }
     }
 
@@ -1904,243 +2157,6 @@ public final class EditorBox {
       }
       cursorRow = panes.top(leaf) + text.lines(panes.start(leaf), point);
       cursorColumn = panes.left(leaf) + Math.min(column, width - 1);
-    }
-  }
-
-  /** The tape, and the reading of it. */
-  private static final class Reader {
-    private static final int QUOTED = -1;
-    private static final int NO_DOT = 0;
-    private static final int DOT = 1;
-    private static final int LAST_CDR = 2;
-    int size;
-    boolean ended;
-    private final Heap heap;
-    private final Symbols names;
-    private final byte[] tape = new byte[TAPE];
-    private int at;
-    private final int[] items = new int[TAPE + 2];
-    private int count;
-    private final int[] firstItems = new int[NESTING];
-    private final int[] dots = new int[NESTING];
-    private int open;
-
-    Reader(Heap heap, Symbols names) {
-      this.heap = heap;
-      this.names = names;
-    }
-
-    void add(int four) {
-      for (int shift = 24; shift >= 0; shift -= 8) {
-        if (size < TAPE) {
-          tape[size] = (byte) (four >> shift & 127);
-          size++;
-        }
-      }
-    }
-
-    void rewind() {
-      at = 0;
-    }
-
-    /** The next thing of the tape; ended if there is none. */
-    int next() {
-      count = 0;
-      open = 0;
-      ended = false;
-      for (int turn = 0; turn <= TAPE; turn++) {
-        passBlanks();
-        if (at >= size && open == 0) {
-          ended = true;
-          return NIL;
-        }
-        int thing = at < size ? readPart(tape[at]) : broken();
-        if (thing != VOID) {
-          thing = quoteWaiting(thing);
-        }
-        if (heap.trouble != NOTHING) {
-          return NIL;
-        }
-        if (thing != VOID && open == 0) {
-          return thing;
-        }
-        if (thing != VOID) {
-          keep(thing);
-        }
-      }
-      return NIL;
-    }
-
-    private int broken() {
-      heap.fail(READ_ERROR, NIL);
-      return VOID;
-    }
-
-    private static boolean isBlank(int sign) {
-      return sign == 32 || sign == 9 || sign == 10 || sign == 13;
-    }
-
-    private void passBlanks() {
-      boolean remark = false;
-      while (at < size && (remark || isBlank(tape[at]) || tape[at] == ';')) {
-        remark = (remark || tape[at] == ';') && tape[at] != 10 && tape[at] != 13;
-        at++;
-      }
-    }
-
-    /** Reads up to where a thing is whole, or VOID where a list or a ' is only begun. */
-    private int readPart(int sign) {
-      if (sign != ')' && open > 0 && dots[open - 1] == LAST_CDR) {
-        return broken();
-      }
-      switch (sign) {
-        case '(':
-          at++;
-          return begin(count);
-        case '\'':
-          at++;
-          return begin(QUOTED);
-        case ')':
-          at++;
-          return close();
-        case '"':
-          at++;
-          return readString();
-        case '?':
-          at++;
-          return readSign();
-        default:
-          return readToken();
-      }
-    }
-
-    private int begin(int first) {
-      if (open >= NESTING) {
-        return broken();
-      }
-      firstItems[open] = first;
-      dots[open] = NO_DOT;
-      open++;
-      return VOID;
-    }
-
-    private boolean inList() {
-      return open > 0 && firstItems[open - 1] != QUOTED;
-    }
-
-    private int close() {
-      if (!inList() || dots[open - 1] == DOT) {
-        return broken();
-      }
-      open--;
-      int first = firstItems[open];
-      int n = count - first;
-      boolean dotted = dots[open] == LAST_CDR && n > 0;
-      int made = heap.list(items, first, dotted ? n - 1 : n, dotted ? items[count - 1] : NIL);
-      count = first;
-      return made;
-    }
-
-    private int quoteWaiting(int thing) {
-      int made = thing;
-      while (open > 0 && firstItems[open - 1] == QUOTED && heap.trouble == NOTHING) {
-        open--;
-        if (count <= TAPE) {
-          items[count] = QUOTE;
-          items[count + 1] = made;
-        }
-        made = heap.list(items, count, 2, NIL);
-      }
-      return made;
-    }
-
-    private void keep(int thing) {
-      if (count < TAPE && open > 0) {
-        items[count] = thing;
-        count++;
-        if (dots[open - 1] == DOT) {
-          dots[open - 1] = LAST_CDR;
-        }
-      }
-    }
-
-    private static int escaped(int sign) {
-      if (sign == 'n') {
-        return 10;
-      }
-      return sign == 't' ? 9 : sign;
-    }
-
-    private int readString() {
-      int n = 0;
-      boolean behind = false;
-      while (at < size && n < heap.pad.length && (behind || tape[at] != '"')) {
-        int sign = tape[at];
-        at++;
-        if (sign == '\\' && !behind) {
-          behind = true;
-        } else {
-          heap.pad[n] = (byte) (behind ? escaped(sign) : sign);
-          n++;
-          behind = false;
-        }
-      }
-      if (at >= size) {
-        return broken();
-      }
-      at++;
-      if (n > MOST_STRING) {
-        heap.fail(TOO_LONG, NIL);
-        return VOID;
-      }
-      return heap.string(heap.pad, 0, n);
-    }
-
-    private int readSign() {
-      boolean behind = at < size && tape[at] == '\\';
-      if (behind) {
-        at++;
-      }
-      if (at >= size) {
-        return broken();
-      }
-      int sign = tape[at];
-      at++;
-      return number(behind ? escaped(sign) : sign);
-    }
-
-    private static boolean endsToken(int sign) {
-      return isBlank(sign) || sign == '(' || sign == ')' || sign == '\'' || sign == '"' || sign == ';';
-    }
-
-    private int readToken() {
-      int from = at;
-      while (at < size && !endsToken(tape[at])) {
-        at++;
-      }
-      int n = at - from;
-      if (n == 1 && tape[from] == '.') {
-        return readDot();
-      }
-      if (isDigits(tape, from, n)) {
-        return numberOf(tape, from, n);
-      }
-      if (n > MOST_NAME) {
-        return broken();
-      }
-      int symbol = names.intern(tape, from, n);
-      if (symbol == VOID) {
-        heap.fail(TOO_MANY_SYMBOLS, NIL);
-      }
-      return symbol;
-    }
-
-    private int readDot() {
-      if (!inList() || dots[open - 1] != NO_DOT || count <= firstItems[open - 1]) {
-        return broken();
-      }
-      dots[open - 1] = DOT;
-      return VOID;
     }
   }
 
@@ -2286,14 +2302,14 @@ public final class EditorBox {
     private final Heap heap;
     private final Symbols names;
     private final Args args;
-    private final Printer printer;
+    private final Script script;
     private final int[] pairs = new int[2 * MOST_CDRS];
 
-    Values(Heap heap, Symbols names, Args args, Printer printer) {
+    Values(Heap heap, Symbols names, Args args, Script script) {
       this.heap = heap;
       this.names = names;
       this.args = args;
-      this.printer = printer;
+      this.script = script;
     }
 
     int lists(int code) {
@@ -2479,9 +2495,9 @@ public final class EditorBox {
           int n = heap.toPad(a, 0);
           return isDigits(heap.pad, 0, n) ? numberOf(heap.pad, 0, n) : number(0);
         default:
-          printer.clear();
-          printer.print(a);
-          return heap.string(printer.signs, 0, printer.size);
+          script.clear();
+          script.print(a);
+          return heap.string(script.signs, 0, script.size);
       }
     }
 
@@ -2569,7 +2585,9 @@ public final class EditorBox {
         case P_GOTO_CHAR:
           text.point = args.place(0);
           return a;
-        case P_INSERT: return insertAll(text);
+        case P_INSERT:
+          insertPad(text, collect(text));
+          return NIL;
         case P_DELETE_REGION: return deleteRegion(text, firstPlace(), secondPlace());
         case P_REGION: return heap.string(text.signs, firstPlace() - 1, secondPlace() - firstPlace());
         case P_UNDO: return truth(desk.undo(desk.current, heap.pad));
@@ -2609,13 +2627,15 @@ public final class EditorBox {
       return bufferValue(b);
     }
 
-    private int insertAll(Text text) {
+    /** Puts all that is to be inserted on the pad; answers how many signs, none with an error. */
+    private int collect(Text text) {
       int n = 0;
       for (int i = 0; i < args.count; i++) {
         n += isString(args.get(i)) ? heap.size(args.get(i)) : 1;
       }
       if (n > TEXT - text.size) {
-        return heap.fail(BUFFER_FULL, NIL);
+        heap.fail(BUFFER_FULL, NIL);
+        return 0;
       }
       int at = 0;
       for (int i = 0; i < args.count && at < heap.pad.length; i++) {
@@ -2626,8 +2646,7 @@ public final class EditorBox {
           at++;
         }
       }
-      insertPad(text, n);
-      return NIL;
+      return n;
     }
 
     /** Inserts a key's sign, as insert does. */
@@ -2844,7 +2863,9 @@ public final class EditorBox {
       int cell = bindingCell(map, sign);
       if (isCons(cell)) {
         heap.setCdr(cell, to);
-      } else if (heap.hasRoom(2)) {
+      } else if (heap.free() < 2) {
+        heap.fail(HEAP_FULL, NIL);
+      } else {
         heap.setCdr(map, heap.cons(heap.cons(number(sign), to), heap.cdr(map)));
       }
     }
@@ -2925,7 +2946,6 @@ public final class EditorBox {
     private static final int CALL = 2;
     private static final int GO_ON = 3;
     private static final int GIVE = 4;
-    private static final int LEAVE = 5;
 
     // The fields of a frame. AT is the cons last come to.
     private static final int KIND = 0;
@@ -2996,35 +3016,32 @@ public final class EditorBox {
       mode = DONE;
     }
 
-    void startThing(int thing) {
-      evaluate(thing);
+    /** Has a value evaluated from the next turn on. */
+    void evaluate(int v) {
+      value = v;
+      mode = EVALUATE;
     }
 
-    /** Calls a value with nothing, as by funcall but without its level. */
-    void startCall(int v) {
+    /** Has a value called with nothing, as by funcall but without its level. */
+    void callWithNothing(int v) {
       args.top = 0;
       callBase = 0;
       callNamed(v);
     }
 
+    /** Turns until all is over; where an error or throw is under way, a turn is to leave a frame. */
     void spin() {
       for (int turn = 0; turn < TURNS && mode != DONE; turn++) {
-        switch (mode) {
-          case EVALUATE:
-            takeStep();
-            break;
-          case CALL:
-            call();
-            break;
-          case GO_ON:
-            goOn();
-            break;
-          case GIVE:
-            take();
-            break;
-          default:
-            leave();
-            break;
+        if (heap.trouble != NOTHING) {
+          leave();
+        } else if (mode == EVALUATE) {
+          takeStep();
+        } else if (mode == CALL) {
+          call();
+        } else if (mode == GO_ON) {
+          goOn();
+        } else {
+          take();
         }
       }
     }
@@ -3041,24 +3058,14 @@ public final class EditorBox {
       }
     }
 
-    private void evaluate(int v) {
-      value = v;
-      mode = EVALUATE;
-    }
-
-    private void fail(int condition, int what) {
-      heap.fail(condition, what);
-      mode = LEAVE;
-    }
-
     private void failForm() {
-      fail(BAD_FORM, get(FORM));
+      heap.fail(BAD_FORM, get(FORM));
     }
 
     /** Puts a frame for something that is a LEVEL; false, with an error, if it would be one too many. */
     private boolean push(int kind, int form, int base) {
       if (height >= depth) {
-        fail(DEPTH, NIL);
+        heap.fail(DEPTH, NIL);
         return false;
       }
       height++;
@@ -3082,14 +3089,14 @@ public final class EditorBox {
 
     private void takeStep() {
       if (steps >= fuel) {
-        fail(FUEL, NIL);
+        heap.fail(FUEL, NIL);
         return;
       }
       steps++;
       if (isCons(value)) {
         beginForm(value);
       } else if (isSymbol(value) && names.value(value) == VOID) {
-        fail(VOID_VARIABLE, value);
+        heap.fail(VOID_VARIABLE, value);
       } else {
         value = isSymbol(value) ? names.value(value) : value;
         mode = GIVE;
@@ -3118,7 +3125,7 @@ public final class EditorBox {
     private void beginCall(int form, int head) {
       int function = functionOf(head);
       if (function == NIL) {
-        fail(VOID_FUNCTION, head);
+        heap.fail(VOID_FUNCTION, head);
       } else if (heap.car(function) == MACRO) {
         put(KIND, EXPANDING);
         callBase = args.top;
@@ -3151,7 +3158,7 @@ public final class EditorBox {
       callee = functionOf(v);
       mode = CALL;
       if (callee == NIL || heap.car(callee) == MACRO) {
-        fail(VOID_FUNCTION, v);
+        heap.fail(VOID_FUNCTION, v);
       }
     }
 
@@ -3163,36 +3170,33 @@ public final class EditorBox {
       int code = names.code(callee);
       args.open(callBase);
       if (!args.fit(code)) {
-        mode = LEAVE;
-      } else if (code < FIRST_LIST) {
+        return;
+      }
+      if (code < FIRST_LIST) {
         control(code);
+        return;
+      }
+      if (code < FIRST_TEST) {
+        value = values.lists(code);
+      } else if (code < FIRST_NUMBER) {
+        value = values.tests(code);
+      } else if (code < FIRST_SYMBOL) {
+        value = values.numbers(code);
+      } else if (code < FIRST_STRING) {
+        value = values.symbols(code);
+      } else if (code < FIRST_BUFFER) {
+        value = values.strings(code);
+      } else if (code < FIRST_MOVE) {
+        value = edits.buffers(code);
+      } else if (code < FIRST_MARK) {
+        value = edits.moves(code);
+      } else if (code < FIRST_WINDOW) {
+        value = edits.marks(code);
       } else {
-        value = perform(code);
-        args.top = callBase;
-        mode = heap.trouble == NOTHING ? GIVE : LEAVE;
+        value = edits.windows(code);
       }
-    }
-
-    private int perform(int code) {
-      if (code < FIRST_BUFFER) {
-        if (code < FIRST_TEST) {
-          return values.lists(code);
-        }
-        if (code < FIRST_NUMBER) {
-          return values.tests(code);
-        }
-        if (code < FIRST_SYMBOL) {
-          return values.numbers(code);
-        }
-        return code < FIRST_STRING ? values.symbols(code) : values.strings(code);
-      }
-      if (code < FIRST_MOVE) {
-        return edits.buffers(code);
-      }
-      if (code < FIRST_MARK) {
-        return edits.moves(code);
-      }
-      return code < FIRST_WINDOW ? edits.marks(code) : edits.windows(code);
+      args.top = callBase;
+      mode = GIVE;
     }
 
     /** The primitives that call, evaluate, or leave. */
@@ -3228,10 +3232,10 @@ public final class EditorBox {
           throwTo(a, b);
           break;
         case P_SIGNAL:
-          fail(a, b);
+          heap.fail(a, b);
           break;
         default:
-          fail(ERROR, a);
+          heap.fail(ERROR, a);
           break;
       }
     }
@@ -3253,11 +3257,10 @@ public final class EditorBox {
           heap.trouble = THROWN;
           heap.cause = tag;
           heap.datum = thrown;
-          mode = LEAVE;
           return;
         }
       }
-      fail(NO_CATCH, tag);
+      heap.fail(NO_CATCH, tag);
     }
 
     private void callLambda(int lambda) {
@@ -3267,14 +3270,13 @@ public final class EditorBox {
       args.open(callBase);
       int parameters = heap.car(heap.cdr(lambda));
       if (heap.length(lambda) < 2) {
-        fail(BAD_FORM, lambda);
+        heap.fail(BAD_FORM, lambda);
       } else if (!areParameters(parameters)) {
-        fail(BAD_FORM, parameters);
+        heap.fail(BAD_FORM, parameters);
       } else if (!isRightNumber(parameters)) {
-        fail(WRONG_NUMBER_OF_ARGS, lambda);
-      } else if (!bindParameters(parameters)) {
-        mode = LEAVE;
+        heap.fail(WRONG_NUMBER_OF_ARGS, lambda);
       } else {
+        bindParameters(parameters);
         args.top = callBase;
         put(AT, heap.cdr(lambda));
         value = NIL;
@@ -3322,7 +3324,7 @@ public final class EditorBox {
       return args.count >= least && args.count <= most;
     }
 
-    private boolean bindParameters(int parameters) {
+    private void bindParameters(int parameters) {
       int at = parameters;
       int taken = 0;
       boolean rest = false;
@@ -3332,14 +3334,10 @@ public final class EditorBox {
         if (word == REST) {
           rest = true;
         } else if (word != OPTIONAL) {
-          int given = rest ? args.list(taken, NIL) : args.get(taken);
+          names.bind(word, rest ? args.list(taken, NIL) : args.get(taken));
           taken++;
-          if (heap.trouble != NOTHING || !names.bind(word, given)) {
-            return false;
-          }
         }
       }
-      return true;
     }
 
     /** Whether a special form has what is told of it, but for what is evaluated. */
@@ -3492,20 +3490,15 @@ public final class EditorBox {
 
     private void defineFunction(int head, int word, int rest) {
       if (word == NIL || word == T) {
-        fail(CONSTANT, word);
+        heap.fail(CONSTANT, word);
         return;
       }
-      int from = args.top;
-      if (head == DEFMACRO) {
-        args.push(MACRO);
-      }
-      args.push(LAMBDA);
-      int made = args.listFrom(from, rest);
-      if (heap.trouble != NOTHING) {
-        mode = LEAVE;
+      if (heap.free() < (head == DEFMACRO ? 2 : 1)) {
+        heap.fail(HEAP_FULL, NIL);
         return;
       }
-      names.define(word, made);
+      int lambda = heap.cons(LAMBDA, rest);
+      names.define(word, head == DEFMACRO ? heap.cons(MACRO, lambda) : lambda);
       finish(word);
     }
 
@@ -3607,18 +3600,13 @@ public final class EditorBox {
       } else {
         names.bind(get(EXTRA), v);
       }
-      if (heap.trouble != NOTHING) {
-        mode = LEAVE;
-        return false;
-      }
-      return true;
+      return heap.trouble == NOTHING;
     }
 
     private void endEntries() {
       int to = args.top;
       for (int i = get(BASE); i + 1 < to; i += 2) {
         if (!names.bind(args.at(i), args.at(i + 1))) {
-          mode = LEAVE;
           return;
         }
       }
@@ -3680,7 +3668,6 @@ public final class EditorBox {
       heap.trouble = get(COUNT);
       heap.cause = get(FIRST);
       heap.datum = get(LAST);
-      mode = LEAVE;
     }
 
     /** The frame takes the value of what it had evaluated or called. */
@@ -3728,9 +3715,7 @@ public final class EditorBox {
     private void takeInForm() {
       switch (get(KIND)) {
         case SETTING:
-          if (!names.assign(get(WORD), value)) {
-            mode = LEAVE;
-          }
+          names.assign(get(WORD), value);
           break;
         case DEFINING:
           names.assign(get(WORD), value);
@@ -3780,10 +3765,6 @@ public final class EditorBox {
 
     private void takeMapped() {
       int made = heap.cons(value, NIL);
-      if (heap.trouble != NOTHING) {
-        mode = LEAVE;
-        return;
-      }
       if (get(FIRST) == NIL) {
         put(FIRST, made);
       } else {
@@ -3868,8 +3849,8 @@ public final class EditorBox {
       beginBody(clause);
       if (word != NIL) {
         int told = heap.cons(heap.cause, heap.datum);
-        if (heap.trouble != NOTHING || !names.bind(word, told)) {
-          mode = LEAVE;
+        if (heap.trouble == NOTHING) {
+          names.bind(word, told);
         }
       }
     }
