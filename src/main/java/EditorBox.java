@@ -1160,9 +1160,11 @@ public final class EditorBox {
     private void makeRoom(int more) {
       int old = 0;
       int oldSigns = 0;
-      while (old < records && (records - old >= RECORDS || goneSize - oldSigns + more > KEPT_SIGNS || old > 0 && deeds[old] == BOUNDARY)) {
+      boolean lacking = records >= RECORDS || goneSize + more > KEPT_SIGNS;
+      while (old < records && (lacking || old > 0 && deeds[old] == BOUNDARY)) {
         oldSigns += deeds[old] == DELETED ? lengths[old] : 0;
         old++;
+        lacking = records - old >= RECORDS || goneSize - oldSigns + more > KEPT_SIGNS;
       }
       if (old > 0 && oldSigns <= goneSize) {
         records -= old;
