@@ -507,8 +507,12 @@ public final class EditorBox {
     return v >> 3;
   }
 
+  /** Whether n signs of a row are digits, with or without a - before them. */
   private static boolean isDigits(byte[] row, int from, int n) {
-    int first = n > 0 && row[from] == '-' ? 1 : 0;
+    if (from < 0 || n < 1 || n > row.length - from) {
+      return false;
+    }
+    int first = row[from] == '-' ? 1 : 0;
     for (int i = first; i < n; i++) {
       if (row[from + i] < '0' || row[from + i] > '9') {
         return false;
@@ -517,8 +521,12 @@ public final class EditorBox {
     return n > first;
   }
 
+  /** The INT that n signs of a row are; Java's own wrapping comes to the same in the lowest 28 bits. */
   private static int numberOf(byte[] row, int from, int n) {
-    boolean below = n > 0 && row[from] == '-';
+    if (from < 0 || n < 1 || n > row.length - from) {
+      return number(0);
+    }
+    boolean below = row[from] == '-';
     int sum = 0;
     for (int i = below ? 1 : 0; i < n; i++) {
       sum = sum * 10 + (row[from + i] - '0');
@@ -2336,6 +2344,7 @@ public final class EditorBox {
         case P_MEMQ: return search(a, b, false, false);
         case P_MEMBER: return search(a, b, true, false);
         case P_ASSQ: return search(a, b, false, true);
+        case P_ASSOC:
         default: return search(a, b, true, true);
       }
     }
@@ -2421,6 +2430,7 @@ public final class EditorBox {
         case P_CONSP: return truth(isCons(a));
         case P_SYMBOLP: return truth(isSymbol(a));
         case P_INTP: return truth(isInt(a));
+        case P_STRINGP:
         default: return truth(isString(a));
       }
     }
@@ -2439,6 +2449,7 @@ public final class EditorBox {
         case P_SAME: return truth(a == b);
         case P_LOGAND: return number(a & b);
         case P_LOGIOR: return number(a | b);
+        case P_SHIFT:
         default: return number(b >= 0 ? a << Math.min(b, 27) : a >> Math.min(-b, 27));
       }
     }
@@ -2469,6 +2480,7 @@ public final class EditorBox {
         case P_FSET: return names.define(a, b) ? b : NIL;
         case P_SYMBOL_FUNCTION: return names.function(a);
         case P_SYMBOL_NAME: return heap.string(heap.pad, 0, names.nameToPad(a));
+        case P_INTERN:
         default: return intern(a);
       }
     }
@@ -2496,6 +2508,7 @@ public final class EditorBox {
         case P_NUMBER:
           int n = heap.toPad(a, 0);
           return isDigits(heap.pad, 0, n) ? numberOf(heap.pad, 0, n) : number(0);
+        case P_PRINT:
         default:
           script.clear();
           script.print(a);
@@ -2597,6 +2610,7 @@ public final class EditorBox {
           text.addBoundary();
           return NIL;
         case P_MODIFIED: return truth(text.modified);
+        case P_SET_MODIFIED:
         default:
           text.modified = a != NIL;
           return truth(text.modified);
@@ -2708,6 +2722,7 @@ public final class EditorBox {
         case P_SEARCH_BACKWARD: return searchBackward(text, a);
         case P_SKIP_FORWARD: return skipForward(text, a);
         case P_COLUMN: return number(text.point - text.lineStart(text.point));
+        case P_LINE:
         default: return number(1 + text.lines(1, text.point));
       }
     }
@@ -2822,6 +2837,7 @@ public final class EditorBox {
         case P_MAKE_MAP: return heap.cons(KEYMAP, NIL);
         case P_DEFINE_KEY: return defineKey(a, args.get(1), args.get(2));
         case P_LOOKUP_KEY: return lookUp(a, args.get(1));
+        case P_USE_MAP:
         default:
           if (a != NIL && !isMap(a)) {
             return heap.fail(WRONG_TYPE, a);
@@ -2933,6 +2949,7 @@ public final class EditorBox {
           }
           panes.setStart(panes.chosen, args.place(0));
           return a;
+        case P_MESSAGE:
         default:
           screen.tell(heap.pad, heap.toPad(a, 0));
           return a;
@@ -3236,6 +3253,7 @@ public final class EditorBox {
         case P_SIGNAL:
           heap.fail(a, b);
           break;
+        case P_ERROR:
         default:
           heap.fail(ERROR, a);
           break;
