@@ -534,7 +534,7 @@ public final class EditorBox {
     return number(below ? -sum : sum);
   }
 
-  /** The cells; and the error or throw under way, since all that can fail has the heap at hand. */
+  /** The cells; and the error or throwing under way, since all that can fail has the heap at hand. */
   private static final class Heap {
     /** A row for signs on their way; nobody leaves anything in it. */
     final byte[] pad = new byte[TAPE];
@@ -3048,7 +3048,7 @@ public final class EditorBox {
       callNamed(v);
     }
 
-    /** Turns until all is over; where an error or throw is under way, a turn is to leave a frame. */
+    /** Turns until all is over; where an error or throwing is under way, a turn is to leave a frame. */
     void spin() {
       for (int turn = 0; turn < TURNS && mode != DONE; turn++) {
         if (heap.trouble != NOTHING) {
@@ -3802,7 +3802,7 @@ public final class EditorBox {
       mode = GO_ON;
     }
 
-    /** An error or a throw leaves the frame, or is held by it. */
+    /** An error or throwing leaves the frame, or is held by it. */
     private void leave() {
       if (height <= 0) {
         mode = DONE;
