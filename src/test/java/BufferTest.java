@@ -55,6 +55,9 @@ public final class BufferTest {
     t.does("(buffer \"c\") (buffer \"d\") (buffer \"e\") (buffer \"f\")");
     Talk.same("six", t.box.about(4), 6);
     t.fails("(buffer \"g\")", "too-many-buffers");
+    Talk names = new Talk();
+    names.is("(list (buffer \"abcdefghijklmnopqrstuvwx\") (set-buffer \"abcdefghijklmnopqrstuvwx\"))", "(#buffer abcdefghijklmnopqrstuvwx #buffer abcdefghijklmnopqrstuvwx)");
+    Talk.same("a long name", names.box.buffer(1, 4), 24);
     t.is("(buffer \"f\")", "#buffer f");
     t.does("(set-buffer \"f\") (insert \"in f\")");
     Talk.same("text", t.text(5), "in f");
@@ -125,6 +128,11 @@ public final class BufferTest {
         "((t nil 0 1) (nil nil 1 1) (nil t 3 1) (t t 0 2) (t nil 0 3) (nil t 5 3))");
     t.is("(progn (goto-char 1) (list (forward-char) (point) (forward-char 3) (point) (forward-char -2) (point) (forward-char nil) (point) (forward-char 0)))",
         "(nil 2 nil 5 nil 3 nil 4 nil)");
+    t.does("(forward-char 7)");
+    Talk.same("just to the end", t.box.buffer(0, 0), 11);
+    t.does("(forward-char -10)");
+    Talk.same("just to 1", t.box.buffer(0, 0), 1);
+    t.does("(goto-char 4)");
     t.fails("(forward-char 8)", "end-of-buffer");
     Talk.same("at the end", t.box.buffer(0, 0), 11);
     t.fails("(forward-char -11)", "beginning-of-buffer");
@@ -177,6 +185,8 @@ public final class BufferTest {
     // whether it moves stays
     t.does("(set-marker n 1) (goto-char 1) (insert \"zz\")");
     t.is("(marker-place n)", "3");
+    t.does("(marker-moves m t) (set-marker m 1) (goto-char 1) (insert \"w\")");
+    t.is("(marker-place m)", "2");
     // a new one in place of one that is no more does not move
     t.does("(setq m nil n nil o nil p nil)");
     t.does("(setq q (marker 1) r (marker 1)) (goto-char 1) (insert \"y\")");

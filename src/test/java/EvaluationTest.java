@@ -84,6 +84,8 @@ public final class EvaluationTest {
       t.fails("((lambda " + bad + " 1) 2 3)", "bad-form: " + bad);
     }
     t.is("(let ((a 5)) ((lambda (a b c d e f g h i j k l m n o p q r s &optional) a) 1 2 3 4 5 6 7 8 9 0 1 2 3 4 5 6 7 8 9))", "1");
+    t.is("((lambda (a b c d e f g h i j k l m n o p q r s u) (list a b s u)) 1 2 3 4 5 6 7 8 9 10 11 12 13 14 15 16 17 18 19 20)", "(1 2 19 20)");
+    t.is("((lambda (a b c d e f g h i j k l m n o p q r &rest u) (list r u)) 1 2 3 4 5 6 7 8 9 10 11 12 13 14 15 16 17 18 19 20)", "(18 (19 20))");
     t.fails("((lambda (a b) (setq got b) (car 5)) 1 2)", "wrong-type: 5");
     t.fails("a", "void-variable: a");
     t.is("got", "2");
@@ -217,6 +219,7 @@ public final class EvaluationTest {
     t.fails("(save-excursion (goto-char 1) (set-buffer \"b\") (while t))", "fuel");
     Talk.same("back also without fuel", t.box.about(6), 0);
     t.is("(point)", "4");
+    t.is("(progn (goto-char 3) (list (save-excursion (goto-char 2) (list (save-excursion (goto-char 5) (insert \"q\") (point)) (point))) (point)))", "((6 2) 3)");
     t.is("(progn (catch 'a (save-excursion (delete-region 1 (point-max)) (throw 'a 1))) (point))", "1");
   }
 

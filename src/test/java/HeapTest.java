@@ -3,6 +3,8 @@ public final class HeapTest {
   public static void main(String[] args) {
     counting();
     full();
+    aSingleCell();
+    listsInEachOther();
     wholeOrNot();
     collecting();
     markers();
@@ -62,6 +64,43 @@ public final class HeapTest {
     t.does("(setq l nil)");
     t.fails("(condition-case nil " + fill + " (heap-full (defun f ())))", "heap-full");
     t.fails("f", "void-variable: f");
+  }
+
+  /** Strings of two cells fill the heap up to one cell or none; three more ahead of it all make it the other. */
+  private static void aSingleCell() {
+    for (String code : new String[] {"(defun f ())", "(cons 1 2)", "(marker 1)", "(concat)", "(list 1)", "(make-map)"}) {
+      int[] one = fillAndDo("", code);
+      int[] other = fillAndDo("(list 1) ", code);
+      Talk.same(code + " has room in one cell, not in none", one[0] + other[0], 1 + 2);
+      Talk.same(code + " leaves no cell", one[1] + other[1], 0);
+    }
+    for (String code : new String[] {"(defmacro f ())", "(define-key m2 s2 5)", "(list 1 2)", "(concat s2)", "(symbol-name 'f)"}) {
+      int[] one = fillAndDo("", code);
+      int[] other = fillAndDo("(list 1) ", code);
+      Talk.same(code + " has no room", one[0] + other[0], 2 + 2);
+      Talk.same(code + " makes nothing then", one[1] + other[1], 1);
+    }
+  }
+
+  /** What load answers, and how many cells are left. */
+  private static int[] fillAndDo(String ahead, String code) {
+    Talk t = new Talk();
+    t.does("(setq m2 (make-map) s2 \"a\" big '(0)) (let ((n 0)) (while (< n 11) (setq n (+ n 1) big (append big big))))");
+    t.does("(setq big (append big big))");
+    int answer = t.load(ahead + "(condition-case nil (progn (append (nthcdr 2560 big) nil) (while t (concat s2))) (heap-full " + code + "))");
+    return new int[] {answer, 6000 - t.box.about(1) - t.box.about(2)};
+  }
+
+  /** mapcar in mapcar, as deep as levels allow, each keeping a list of 4096. */
+  private static void listsInEachOther() {
+    Talk t = new Talk();
+    t.does("(setq big '(0)) (let ((n 0)) (while (< n 11) (setq n (+ n 1) big (append big big))))");
+    t.does("(setq big (append big big)) (setq deep 0)");
+    t.does("(defun g (x) (setq deep (+ deep 1)) (mapcar 'g big))");
+    t.fails("(mapcar 'g big)", "depth");
+    t.is("(list deep (length big))", "(49 4096)");
+    t.does("(defun h (n) (if (= n 0) (apply '+ big) (mapcar (lambda (x) (throw 'out (h (- n 1)))) big)))");
+    t.is("(catch 'out (h 20))", "0");
   }
 
   private static void wholeOrNot() {

@@ -67,6 +67,9 @@ public final class KeyTest {
     t.box.key(24);
     Talk.same("undefined", t.box.key('a'), 3);
     Talk.same("message", t.message(), "^Xa undefined");
+    t.box.key(24);
+    Talk.same("a space behind another key", t.box.key(32), 3);
+    Talk.same("message", t.message(), "^X  undefined");
     Talk.same("none waits", t.box.about(9), 0);
     Talk.same("text", t.text(0), "");
     t.is("last-key", "122");

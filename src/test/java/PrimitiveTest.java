@@ -135,6 +135,7 @@ public final class PrimitiveTest {
         "(car nil nil (lambda nil) (lambda nil))");
     t.is("(list (symbol-name 'abc) (intern \"abc\") (eq (intern \"nil\") nil) (intern \"a b\"))", "(\"abc\" abc t a b)");
     t.fails("(intern \"\")", "out-of-range: \"\"");
+    t.is("(list (intern \"x\") (eq (intern \"x\") 'x))", "(x t)");
     t.fails("(intern \"abcdefghijklmnopqrstuvwxy\")", "out-of-range: \"abcdefghijklmnopqrstuvwxy\"");
     int had = t.box.about(3);
     t.does("(intern \"abcdefghijklmnopqrstuvwx\")");

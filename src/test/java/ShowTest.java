@@ -76,6 +76,11 @@ public final class ShowTest {
     Talk.same("start", t.box.window(0, 5), 19);
     t.does("(goto-char 17)");
     Talk.same("above", t.box.window(0, 5), 11);
+    t.does("(goto-char 11)");
+    Talk.same("point in START's own line", t.box.window(0, 5), 11);
+    t.does("(goto-char 21)");
+    Talk.same("point in the last line shown", t.box.window(0, 5), 11);
+    t.does("(goto-char 17)");
     t.does("(delete-region 10 12)");
     Talk.same("in a line's midst: to its beginning", t.box.window(0, 5), 9);
     Talk.same("row", t.row(0), "e");

@@ -7,6 +7,7 @@ public final class WindowTest {
     goingRound();
     deleting();
     deletingInATree();
+    deletingInADeepTree();
     points();
     showingBuffers();
     starts();
@@ -104,6 +105,27 @@ public final class WindowTest {
     Talk.same("areas", areas(t), "0 0 21 40*  0 40 21 40");
     t.does("(split-right) (other-window) (split-below) (other-window) (other-window) (delete-window)");
     Talk.same("areas", areas(t), "0 0 21 20*  0 20 10 60  10 20 11 60");
+  }
+
+  private static void deletingInADeepTree() {
+    Talk t = new Talk(40, 80, 5000, 150);
+    // A left; right of it B over C, C being D beside E, E being F over G.
+    t.does("(split-right) (other-window) (split-below) (other-window) (split-right) (other-window) (split-below)");
+    Talk.same("areas", areas(t), "0 0 39 40  0 40 19 40  19 40 20 20  19 60 10 20*  29 60 10 20");
+    t.does("(insert \"1\\n2\\n3\\n4\\n5\\n6\\n7\\n8\\n9\\n0\\n\") (goto-char 19) (set-window-start 5)");
+    Talk.same("start", t.box.window(3, 5), 5);
+    t.does("(other-window) (goto-char 3) (other-window) (goto-char 1) (delete-window)");
+    Talk.same("areas", areas(t), "0 0 19 80*  19 0 20 20  19 20 10 60  29 20 10 60");
+    Talk.same("the other windows keep their starts", t.box.window(2, 5), 5);
+    Talk.same("and points", t.box.window(2, 6), 19);
+    Talk.same("and points", t.box.window(3, 6), 3);
+    t.does("(goto-char 1) (insert \"0\\n\")");
+    Talk.same("which go with the text", t.box.window(2, 5), 7);
+    Talk.same("which go with the text", t.box.window(2, 6), 21);
+    t.does("(other-window) (other-window) (delete-window)");
+    Talk.same("areas", areas(t), "0 0 19 80  19 0 20 20  19 20 20 60*");
+    t.does("(other-window) (other-window) (delete-window)");
+    Talk.same("areas", areas(t), "0 0 19 80  19 0 20 80*");
   }
 
   private static void points() {
