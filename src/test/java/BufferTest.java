@@ -124,6 +124,7 @@ public final class BufferTest {
     t.is("(progn (goto-char 1) (list (char-after) (char-before) (char-after 4) (char-before 4) (char-after 11) (char-before 11) (char-after nil)))",
         "(111 nil 10 101 nil 101 111)");
     t.fails("(char-after 12)", "out-of-range: 12");
+    t.is("(progn (set-buffer (buffer \"zero\")) (insert 0) (list (char-before) (char-after 1)))", "(0 0)");
     t.is("(mapcar (lambda (p) (goto-char p) (list (bolp) (eolp) (column) (line))) '(1 2 4 5 6 11))",
         "((t nil 0 1) (nil nil 1 1) (nil t 3 1) (t t 0 2) (t nil 0 3) (nil t 5 3))");
     t.is("(progn (goto-char 1) (list (forward-char) (point) (forward-char 3) (point) (forward-char -2) (point) (forward-char nil) (point) (forward-char 0)))",

@@ -187,6 +187,11 @@ public final class EvaluationTest {
     t.is("(condition-case nil (signal nil 3) (nil 1))", "1");
     t.fails("(condition-case nil (car 5) (arith 1) (5 2) ((6 . 7) 3))", "wrong-type: 5");
     t.fails("(condition-case t (car 5) (error 1))", "constant: t");
+    t.does("(setq big '(0)) (let ((n 0)) (while (< n 11) (setq n (+ n 1) big (append big big)))) (setq big (append big nil))");
+    t.does("(setq big (append big big)) (setcar (nthcdr 4095 big) 'error)");
+    t.is("(eval (list 'condition-case nil '(car 5) (list big 7)))", "7");
+    t.fails("(eval (list 'condition-case nil '(car 5) (list (cons 0 big) 7)))", "wrong-type: 5");
+    t.does("(setq big nil)");
     t.fails("(condition-case e (car 5) (error (car 6)) (wrong-type 7))", "wrong-type: 6");
     t.fails("(condition-case e 1) e", "void-variable: e");
     t.does("(condition-case e (car 5) (error e))");
@@ -220,6 +225,8 @@ public final class EvaluationTest {
     Talk.same("back also without fuel", t.box.about(6), 0);
     t.is("(point)", "4");
     t.is("(progn (goto-char 3) (list (save-excursion (goto-char 2) (list (save-excursion (goto-char 5) (insert \"q\") (point)) (point))) (point)))", "((6 2) 3)");
+    t.is("(list (save-excursion (set-buffer \"b\") (list (save-excursion (set-buffer (buffer \"c\")) (current-buffer)) (current-buffer))) (current-buffer))",
+        "((#buffer c #buffer b) #buffer main)");
     t.is("(progn (catch 'a (save-excursion (delete-region 1 (point-max)) (throw 'a 1))) (point))", "1");
   }
 

@@ -88,6 +88,7 @@ public final class HeapTest {
     t.does("(setq m2 (make-map) s2 \"a\" big '(0)) (let ((n 0)) (while (< n 11) (setq n (+ n 1) big (append big big))))");
     t.does("(setq big (append big big))");
     int answer = t.load(ahead + "(condition-case nil (progn (append (nthcdr 2560 big) nil) (while t (concat s2))) (heap-full " + code + "))");
+    Talk.same("message", t.message(), answer == 1 ? "" : "heap-full");
     return new int[] {answer, 6000 - t.box.about(1) - t.box.about(2)};
   }
 

@@ -35,6 +35,9 @@ public final class ShowTest {
     Talk.same("a tab at 7", t.row(1), "1234567 c");
     Talk.same("a tab at 8", t.row(2), "12345678        d");
     Talk.same("low signs", t.row(3), "001^@^[^?^M");
+    Talk.same("a space is one", t.load("(goto-char (point-max)) (insert \" and more\")"), 1);
+    Talk.same("last", t.row(5), "last and more");
+    t.does("(delete-region (- (point-max) 9) (point-max))");
     Talk.same("an empty line", t.row(4), "");
     Talk.same("last", t.row(5), "last");
     Talk.same("cursor row", t.box.about(7), 5);

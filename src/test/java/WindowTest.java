@@ -91,6 +91,11 @@ public final class WindowTest {
     Talk.same("one", t.box.about(5), 1);
     t.is("(delete-other-windows)", "nil");
     t.does("(split-below) (split-right) (split-below)");
+    t.does("(delete-other-windows) (insert \"abc\") (setq ms nil) (while (< (length ms) 40) (setq ms (cons (marker 2) ms)))");
+    t.does("(split-below) (split-right) (split-below) (delete-window) (delete-window) (delete-window)");
+    t.does("(setq sum 0) (mapcar (lambda (m) (setq sum (+ sum (marker-place m)))) ms) (message (print sum))");
+    Talk.same("markers stay where they are", t.message(), "80");
+    t.does("(split-below) (split-right) (split-below)");
     Talk.same("nodes are used again", areas(t), "0 0 3 20*  3 0 4 20  0 20 7 20  7 0 8 40");
   }
 
