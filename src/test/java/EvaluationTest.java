@@ -171,6 +171,7 @@ public final class EvaluationTest {
     Talk t = new Talk();
     t.is("(catch 'a (throw 'a 1) 2)", "1");
     t.is("(list (catch 'a) (catch 'a 1 2))", "(nil 2)");
+    t.does("(catch 'a (throw 'a 1) (car 5))");
     t.is("(catch 'a (catch 'b (throw 'a 1)) 2)", "1");
     t.is("(catch 'a (list (catch 'a (throw 'a 1)) 2))", "(1 2)");
     t.is("(catch 5 (throw 5 1))", "1");
@@ -240,6 +241,10 @@ public final class EvaluationTest {
       t.fails(bad, "bad-form: " + bad);
     }
     t.fails("(cond ((setq done 1)) 5)", "bad-form: (cond ((setq done 1)) 5)");
+    t.fails("(let ((a (setq done 1)) 5))", "bad-form: (let ((a (setq done 1)) 5))");
+    t.fails("(let* ((a (setq done 1)) (b . 5)))", "bad-form: (let* ((a (setq done 1)) (b . 5)))");
+    t.fails("(setq a (setq done 1) 5 6)", "bad-form: (setq a (setq done 1) 5 6)");
+    t.fails("(condition-case nil (setq done 1) 5)", "bad-form: (condition-case nil (setq done 1) 5)");
     t.fails("done", "void-variable: done");
     t.does("(save-excursion) (progn) (and) (or) (cond) (lambda)");
   }

@@ -5,6 +5,7 @@ public final class UndoTest {
     boundaries();
     manyRecords();
     manySigns();
+    justSoManySigns();
     places();
     Talk.end();
   }
@@ -94,6 +95,18 @@ public final class UndoTest {
     Talk.same("back", t.box.buffer(0, 1), 1);
     t.is("(undo)", "nil");
     Talk.same("no more", t.box.buffer(0, 1), 1);
+  }
+
+  private static void justSoManySigns() {
+    Talk t = new Talk();
+    t.is("(boundary)", "nil");
+    t.does("(setq s \"0123456789\") (setq s (concat s s s s s s s s s s))");
+    for (int i = 0; i < 3; i++) {
+      t.does("(insert s s s s s s s s s s)");
+      t.does("(delete-region 1 1001)");
+    }
+    // I B D B I B D B I B D: the third deletion pushes out all up to the first, and the boundary behind it.
+    Talk.same("records", t.box.buffer(0, 3), 7);
   }
 
   private static void places() {
