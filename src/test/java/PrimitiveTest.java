@@ -25,6 +25,7 @@ public final class PrimitiveTest {
       t.fails("(" + word + ")", "wrong-number-of-args: " + word);
       t.fails("(" + word + " 1 2)", "wrong-number-of-args: " + word);
     }
+    t = new Talk();
     String[] two = {"cons", "setcar", "setcdr", "nth", "nthcdr", "append", "memq", "member", "assq", "assoc", "mapcar", "eq", "equal", "/", "%", "<",
         ">", "=", "logand", "logior", "shift", "set", "fset", "apply", "throw", "signal", "string=", "string<", "sign", "delete-region", "region",
         "set-marker", "marker-moves", "lookup-key"};
@@ -32,6 +33,7 @@ public final class PrimitiveTest {
       t.fails("(" + word + " 1)", "wrong-number-of-args: " + word);
       t.fails("(" + word + " 1 2 3)", "wrong-number-of-args: " + word);
     }
+    t = new Talk();
     for (String word : new String[] {"substring", "put-face", "define-key"}) {
       t.fails("(" + word + " 1 2)", "wrong-number-of-args: " + word);
       t.fails("(" + word + " 1 2 3 4)", "wrong-number-of-args: " + word);

@@ -1,14 +1,29 @@
 /** What the tests share: talking to an EditorBox in text, and counting what is not as due. */
 final class Talk {
   private static int wrong = 0;
-  final EditorBox box;
+  final Box box;
 
   Talk(int rows, int columns, int fuel, int depth) {
-    box = new EditorBox(rows, columns, fuel, depth);
+    box = new Box(rows, columns, fuel, depth);
   }
 
   Talk() {
     this(12, 40, 5000, 150);
+  }
+
+  /** A new object on which some loads went well. */
+  static Talk after(String... codes) {
+    Talk t = new Talk();
+    for (String code : codes) {
+      t.does(code);
+    }
+    return t;
+  }
+
+  /** Gives the symbol big a list of 4096 zeros; it takes 4096 cells. */
+  void makeBig() {
+    does("(setq big '(0)) (let ((n 0)) (while (< n 11) (setq n (+ n 1) big (append big big))))");
+    does("(setq big (append big big))");
   }
 
   /** Puts a text behind the tape. */
@@ -92,6 +107,51 @@ final class Talk {
   void does(String code) {
     int answer = load(code);
     same(code, answer + (answer == 1 ? "" : " " + message()), "1");
+  }
+
+  /** All that can be asked, but for the message, steps, cells, symbols and the buffer that is current. */
+  String state() {
+    StringBuilder all = new StringBuilder();
+    for (int b = 0; b < box.about(4); b++) {
+      all.append(text(b));
+      for (int what = 0; what < 5; what++) {
+        all.append(' ').append(box.buffer(b, what));
+      }
+    }
+    for (int k = 0; k < box.about(5); k++) {
+      for (int what = 0; what < 8; what++) {
+        all.append(' ').append(box.window(k, what));
+      }
+    }
+    for (int what : new int[] {4, 5, 7, 8, 9, 10, 11}) {
+      all.append(" about ").append(box.about(what));
+    }
+    for (int row = 0; box.shown(row + 1, 0) != EditorBox.NONE; row++) {
+      for (int column = 0; box.shown(row, column) != EditorBox.NONE; column++) {
+        all.append(' ').append(box.shown(row, column));
+      }
+    }
+    return all.toString();
+  }
+
+  /** The code ends by an error with that message and has changed nothing. */
+  void refuses(String code, String want) {
+    does("");
+    String was = state();
+    fails(code, want);
+    same(code + " changed something", state(), was);
+  }
+
+  /** The code answers NIL and has changed nothing. */
+  void declines(String code) {
+    does("");
+    String was = state();
+    is(code, "nil");
+    same(code + " changed something", state(), was);
+  }
+
+  static void same(String what, boolean got, boolean want) {
+    same(what, got ? "true" : "false", want ? "true" : "false");
   }
 
   static void same(String what, long got, long want) {
