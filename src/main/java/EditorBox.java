@@ -1300,11 +1300,9 @@ public final class EditorBox {
       }
     }
 
-    /** Puts signs at a place; the buffer's point stays if it is there. */
+    /** Puts signs at a place; whoever calls says where the buffer's point is then. */
     void insert(int b, int at, byte[] row, int n) {
-      Text text = text(b);
-      text.put(at, row, 0, n);
-      text.point += text.point > at ? n : 0;
+      text(b).put(at, row, 0, n);
       for (int i = 0; i < PLACES; i++) {
         if (homes[i] == b && (places[i] > at || places[i] == at && moves[i])) {
           places[i] += n;

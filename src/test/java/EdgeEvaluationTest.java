@@ -180,6 +180,17 @@ public final class EdgeEvaluationTest {
     for (String[] pair : cases) {
       new Talk().refuses(pair[0], "void-function" + pair[1]);
     }
+    for (int n = 0; n < 160; n += 3) {
+      new Talk().refuses("(" + n + " nil)", "void-function: " + n);
+      new Talk().refuses("(funcall " + n + " nil)", "void-function: " + n);
+      new Talk().refuses("(fset 'f " + n + ") (f nil)", "void-function: f");
+    }
+    for (String v : new String[] {"\"text\"", "#m", "#b"}) {
+      Talk t = Talk.after("(setq m (marker 1) b (current-buffer))");
+      String code = v.equals("#m") ? "m" : v.equals("#b") ? "b" : v;
+      t.refuses("(funcall " + code + ")", "void-function: " + (v.equals("#m") ? "#marker" : v.equals("#b") ? "#buffer main" : v));
+      t.refuses("(eval (list " + code + "))", "void-function: " + (v.equals("#m") ? "#marker" : v.equals("#b") ? "#buffer main" : v));
+    }
     Talk t = new Talk();
     t.fails("(nosuch (insert ?x))", "void-function: nosuch");
     Talk.same("the function is looked up first", t.text(0), "");

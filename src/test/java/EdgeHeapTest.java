@@ -7,6 +7,9 @@ public final class EdgeHeapTest {
     madeOneByOne();
     madeByReading();
     allCells();
+    allLive();
+    noneLive();
+    theFirstCell();
     reached();
     noMore();
     errorItself();
@@ -173,6 +176,58 @@ public final class EdgeHeapTest {
     t.does("(setq big nil)");
     t.does("");
     Talk.same("what is not reached is no more", t.box.about(1), 1);
+  }
+
+  /** 6000 LIVE cells leave none to make. */
+  private static void allLive() {
+    Talk t = new Talk();
+    t.makeBig();
+    t.does("(define-key global-map \"k\" (lambda () (setq rest (append (nthcdr 3072 big) big)) (while t (setq rest (cons 1 rest)))))");
+    t.does("(define-key global-map \"l\" (lambda () (setq rest nil))) (define-key global-map \"m\" (lambda () (list)))");
+    t.does("(define-key global-map \"n\" (lambda () (list 1)))");
+    Talk.same("a key needs no reading", t.box.key('k'), 2);
+    Talk.same("message", t.message(), "heap-full");
+    t.does("");
+    Talk.same("all are live", t.box.about(1), 6000);
+    t.refuses("'a", "heap-full");
+    Talk.same("none was made", t.box.about(2), 0);
+    t.does("5 nil rest ()");
+    Talk.same("what needs none", t.box.key('m'), 1);
+    Talk.same("what needs one", t.box.key('n'), 2);
+    Talk.same("text of a key", t.box.key('x'), 1);
+    Talk.same("they are gone", t.box.key('l'), 1);
+    Talk.same("live at its beginning", t.box.about(1), 6000);
+    t.does("(setq r2 (length big))");
+    Talk.same("there is room again", t.box.about(1) < 5000, true);
+    t.is("r2", "4096");
+  }
+
+  /** Without anything that is reached the first thing that is read lies first. */
+  private static void noneLive() {
+    Talk t = Talk.after("(setq global-map nil)");
+    t.does("");
+    Talk.same("live", t.box.about(1), 0);
+    t.is("(list 1 2)", "(1 2)");
+    t.is("\"text\"", "\"text\"");
+    t.is("'a", "a");
+    t.does("(setq m (marker 1))");
+    t.is("(marker-place m)", "1");
+  }
+
+  /** Whatever lies first in the heap is as good as the others. */
+  private static void theFirstCell() {
+    String[][] cases = {{"'(1 2)", "(list (car quote) (cdr quote) (setcar quote 5) (setcdr quote 6) quote)", "(1 (2) 5 6 (5 . 6))"},
+        {"\"text\"", "(list (length quote) (sign quote 0) (concat quote \"s\") (equal quote \"text\"))", "(4 116 \"texts\" t)"},
+        {"(marker 1)", "(list (marker-place quote) (eq (goto-char quote) quote) (set-marker quote 1))", "(1 t #marker)"},
+        {"(lambda (x) x)", "(list (funcall quote 3) (mapcar quote (list 4)))", "(3 (4))"}};
+    for (String[] one : cases) {
+      Talk t = Talk.after("(set 'quote " + one[0] + ")");
+      t.is(one[1], one[2]);
+    }
+    Talk t = Talk.after("(setcdr global-map (list (cons 97 'point)))");
+    t.is("global-map", "(keymap (97 . point))");
+    t.does("(setcar global-map 'other)");
+    t.refuses("(use-map global-map)", "wrong-type: (other (97 . point))");
   }
 
   /** From the symbols' values and functions, the buffers' local maps; from conses their cars and cdrs. */

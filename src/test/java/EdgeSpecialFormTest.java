@@ -289,6 +289,14 @@ public final class EdgeSpecialFormTest {
     t.is("(progn (save-excursion (delete-region 4 7)) (point))", "4");
     t.is("(progn (save-excursion (delete-region 1 (point-max))) (point))", "1");
     t.is("(progn (save-excursion (undo)) (point))", "1");
+    // The windows' places are others.
+    t = Talk.after("(insert \"1\\n2\\n3\\n4\\n5\\n\") (goto-char 7) (set-window-start 5) (split-below) (other-window) (goto-char 9) (set-window-start 3) (other-window)");
+    t.does("(save-excursion (goto-char 1) (save-excursion (goto-char 2) (insert ?x) (save-excursion (goto-char 3) (insert ?y))))");
+    int[][] want = {{7, 9}, {5, 11}};
+    for (int k = 0; k < 2; k++) {
+      Talk.same("start of window " + k, t.box.window(k, 5), want[k][0]);
+      Talk.same("point of window " + k, t.box.window(k, 6), want[k][1]);
+    }
     // As many in each other as there are levels.
     t = new Talk(8, 40, 5000, 150);
     t.does("(insert \"abc\") (defun deep (n) (save-excursion (goto-char 1) (if (< 0 n) (deep (- n 1)) (insert \"x\"))))");

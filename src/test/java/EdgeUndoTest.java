@@ -11,6 +11,7 @@ public final class EdgeUndoTest {
     boundariesAtTheEdge();
     twoThousandSigns();
     oneSignMore();
+    theRightSigns();
     manyGoAtOnce();
     signsAreFreeAgain();
     neverTwoNorFirst();
@@ -131,6 +132,26 @@ public final class EdgeUndoTest {
     Talk.same("2001 signs", records(t), 4);
     t.does("(undo)");
     Talk.same("text", t.box.buffer(0, 1), 1);
+  }
+
+  /** The signs of those that are kept stay theirs when others go. */
+  private static void theRightSigns() {
+    String fill = "(defun fill (n c) (let ((s (concat (string c) (string (+ c 1))))) (while (< (length s) n) (setq s (concat s s))) (insert (substring s 0 n))))";
+    Talk t = Talk.after(fill, "(fill 900 97) (delete-region 1 901)", "(fill 800 65) (delete-region 1 801)", "(fill 300 49) (delete-region 1 301)");
+    Talk.same("I D B I D B I D", records(t), 8);
+    t.does("(insert \"z\") (delete-region 1 2)");
+    // With 900 + 800 + 300 kept one more has no room: the first insertion, its deletion and the boundary go.
+    Talk.same("I D B I D B I D", records(t), 8);
+    t = Talk.after(fill, "(fill 900 97)", "(delete-region 1 901)", "(fill 800 65)", "(delete-region 1 801)", "(fill 300 49)", "(delete-region 1 301)", "(insert \"z\")", "(delete-region 1 2)");
+    t.is("(progn (undo) (region 1 (point-max)))", "\"z\"");
+    t.is("(progn (undo) (undo) (list (point-max) (region 1 5)))", "(301 \"1212\")");
+    t.is("(progn (undo) (undo) (list (point-max) (region 1 5)))", "(801 \"ABAB\")");
+    t.is("(list (undo) (point-max) (undo))", "(t 1 nil)");
+    // Just 2000 are kept: an insertion needs none of that room.
+    t = Talk.after(TEXT_500, "(insert s s s) (delete-region 1 1501) (insert s) (delete-region 1 501) (insert \"x\")");
+    Talk.same("five", records(t), 5);
+    t.does("(insert \"y\")");
+    Talk.same("a boundary and one more", records(t), 7);
   }
 
   private static void manyGoAtOnce() {

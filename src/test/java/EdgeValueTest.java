@@ -225,6 +225,8 @@ public final class EdgeValueTest {
     t.refuses("(equal (cons a 1) (cons b 2))", "circular");
     t.is("(equal (cons (cons 1 a) a) (cons (cons 2 b) b))", "nil");
     t.is("(equal '((1 . 2) . 3) '((1 . 2) . 3))", "t");
+    t.is("(mapcar (lambda (x) (list (equal x \"\") (equal \"\" x))) (list 0 nil 'a '(1) \"a\" (marker 1) (current-buffer) \"\"))",
+        "((nil nil) (nil nil) (nil nil) (nil nil) (nil nil) (nil nil) (nil nil) (t t))");
     t.is("(list (equal '(1 . \"a\") '(1 . \"a\")) (equal '(\"a\" . 1) '(\"b\" . 1)) (equal '(1 . 2) '(1 . 3)) (equal '(1) '(1 nil)))", "(t nil nil nil)");
   }
 
