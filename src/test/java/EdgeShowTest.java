@@ -105,6 +105,16 @@ public final class EdgeShowTest {
     Talk t = with(6, 20, "(insert \"1\\n2\\n3\\n4\\n5\\n6\") (goto-char 1)");
     Talk.same("rows", t.row(0) + t.row(1) + t.row(2) + t.row(3), "1234");
     Talk.same("no fifth", t.row(4), "-* main L1 C0-------");
+    Talk.same("nor in the message's row", t.row(5), "");
+    Talk two = with(12, 40, "(insert \"" + Talk.times("x\\n", 30) + "\") (goto-char 1) (split-below) (split-right) (other-window) (show-buffer (buffer \"o\")) (other-window) (show-buffer \"o\")");
+    for (int row = 0; row < 4; row++) {
+      Talk.same("row " + row, two.row(row), "x                  |");
+    }
+    for (int row = 5; row < 10; row++) {
+      Talk.same("nothing in the window below", two.row(row), "");
+    }
+    two.does("(other-window) (delete-other-windows) (split-right) (goto-char (point-max)) (insert \"" + Talk.times("y", 50) + "\") (other-window) (show-buffer \"o\")");
+    Talk.same("nor in the one to the right", two.row(5), "yyyyyyyyyyyyyyyyyy$|");
     t.does("(delete-region 4 (point-max))");
     Talk.same("rows", t.row(0) + "," + t.row(1) + "," + t.row(2) + "," + t.row(3), "1,2,,");
     t.does("(goto-char (point-max)) (insert \"\\n\")");
@@ -162,6 +172,17 @@ public final class EdgeShowTest {
     Talk.same("four lines above", t.box.window(0, 5), 3);
     t.does("(goto-char (point-max))");
     t.does("(goto-char 3)");
+    Talk.same("or 1", t.box.window(0, 5), 1);
+    // Lines that are empty are lines, too.
+    t = with(10, 20, "(insert \"" + Talk.times("\\n", 19) + "\")");
+    Talk.same("four lines above", t.box.window(0, 5), 16);
+    t.does("(goto-char 6)");
+    Talk.same("four lines above", t.box.window(0, 5), 2);
+    t.does("(goto-char (point-max))");
+    t.does("(goto-char 5)");
+    Talk.same("four lines above", t.box.window(0, 5), 1);
+    t.does("(goto-char (point-max))");
+    t.does("(goto-char 4)");
     Talk.same("or 1", t.box.window(0, 5), 1);
   }
 
@@ -226,6 +247,7 @@ public final class EdgeShowTest {
     t.does("(split-below)");
     Talk.same("the upper left one", t.box.shown(0, 19), '|' + 1024);
     Talk.same("its mode line", t.box.shown(5, 19), '-' + 1024);
+    Talk.same("which ends there", t.box.shown(5, 20), ' ');
     Talk.same("the lower left one", t.box.shown(6, 19), '|' + 1024);
     t = with(14, 40, "(split-below) (split-right)");
     Talk.same("the upper part alone is split", t.box.shown(0, 19), '|' + 1024);

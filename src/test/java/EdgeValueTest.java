@@ -216,6 +216,11 @@ public final class EdgeValueTest {
     t.does("(setq a (list 1) b (list 1)) (setcdr a a) (setcdr b b)");
     t.refuses("(equal a b)", "circular");
     t.is("(list (equal a a) (equal (list a) (list a)))", "(t t)");
+    t.does("(setq a (list 1) b (list 1)) (setcar a a) (setcar b b)");
+    t.refuses("(equal a b)", "circular");
+    t.does("(setcdr a a) (setcdr b b)");
+    t.refuses("(equal a b)", "circular");
+    t.refuses("(member a (list b))", "circular");
   }
 
   /** Cars first, up to the first difference. */
