@@ -179,6 +179,8 @@ public final class EdgeBufferTest {
     t.does("(goto-char 7) (insert \"\\n\")");
     t.is("(list (point) (bolp) (eolp) (column) (line))", "(8 t t 0 4)");
     new Talk().is("(list (bolp) (eolp) (column) (line) (beginning-of-line) (end-of-line) (point))", "(t t 0 1 nil nil 1)");
+    t = Talk.after("(insert \"\\n\\nab\")");
+    t.is("(mapcar (lambda (p) (goto-char p) (list (line) (column) (bolp) (eolp))) '(1 2 3 4))", "((1 0 t t) (2 0 t t) (3 0 t nil) (3 1 nil nil))");
     // Only 10 is a line end here.
     t = Talk.after("(insert \"a\" 13 \"b\" 9 \"c\")");
     t.is("(list (line) (column))", "(1 5)");
@@ -217,6 +219,8 @@ public final class EdgeBufferTest {
     t.does("(goto-char (point-max)) (insert \"\\n\")");
     t.is("(list (go 8 1) (go 8 2) (go 10 1) (go 10 -1) (go 10 0))", "((0 10) (1 10) (1 10) (0 7) (0 10))");
     new Talk().is("(list (forward-line) (forward-line 0) (forward-line -1) (point))", "(1 0 1 1)");
+    t = Talk.after("(insert \"\\n\\n\\na\")", "(defun go (from n) (goto-char from) (list (forward-line n) (point)))");
+    t.is("(list (go 2 -1) (go 3 -2) (go 4 -3) (go 5 -4) (go 1 1) (go 1 3) (go 1 4))", "((0 1) (0 1) (0 1) (1 1) (0 2) (0 4) (1 5))");
   }
 
   /** 134217728 of them wraps to -134217728. */

@@ -243,6 +243,10 @@ public final class EdgeEvaluationTest {
     new Talk().refuses("((lambda (" + letters(19) + " &rest z) z)" + ones + ")", "bad-form: (" + letters(19) + " &rest z)");
     new Talk().is("((lambda (" + letters(17) + " &optional &rest s) s)" + ones + ")", "(1 1 1)");
     new Talk().refuses("((lambda (" + letters(18) + " &optional &rest s) s)" + ones + ")", "bad-form: (" + letters(18) + " &optional &rest s)");
+    for (String bad : new String[] {"nil", "t", "5", "&rest", "(z)"}) {
+      new Talk().refuses("((lambda (" + letters(19) + " " + bad + ") 1)" + ones + ")", "bad-form: (" + letters(19) + " " + bad + ")");
+      new Talk().refuses("((lambda (" + bad + " " + letters(19) + ") 1)" + ones + ")", "bad-form: (" + bad + " " + letters(19) + ")");
+    }
     new Talk().is("((lambda (" + Talk.times("a ", 20) + ") a)" + Talk.times(" 1", 19) + " 2)", "2");
     new Talk().refuses("((lambda (" + Talk.times("a ", 20) + "a) a)" + ones + " 1)", "bad-form: (" + Talk.times("a ", 20) + "a)");
   }

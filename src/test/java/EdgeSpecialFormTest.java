@@ -113,6 +113,8 @@ public final class EdgeSpecialFormTest {
       new Talk().is("(" + let + " (" + letters(20) + ") (list a tt))", "(nil nil)");
       new Talk().refuses("(" + let + " (" + letters(21) + ") (insert 120))", "bad-form: (" + let + " (" + letters(21) + ") (insert 120))");
       new Talk().is("(" + let + " (" + Talk.times("(a 1) ", 20) + ") a)", "1");
+      new Talk().refuses("(" + let + " (" + letters(19) + " 5) (insert 120))", "bad-form: (" + let + " (" + letters(19) + " 5) (insert 120))");
+      new Talk().refuses("(" + let + " (" + letters(19) + " (z 1 2)) (insert 120))", "bad-form: (" + let + " (" + letters(19) + " (z 1 2)) (insert 120))");
       String entries = Talk.times("(a 1) ", 20) + "(a 1)";
       new Talk().refuses("(" + let + " (" + entries + ") (insert 120))", "bad-form: (" + let + " (" + entries + ") (insert 120))");
       new Talk().refuses("(" + let + " (" + Talk.times("(a) ", 20) + "a) a)", "bad-form: (" + let + " (" + Talk.times("(a) ", 20) + "a) a)");
@@ -269,6 +271,12 @@ public final class EdgeSpecialFormTest {
     t.is("(let ((x 1)) (condition-case e (unwind-protect (let ((x 2)) (car 5)) (setq seen x)) (error seen)))", "1");
     t.is("(catch 'a (unwind-protect (unwind-protect (throw 'a 1) (insert ?h)) (insert ?i)))", "1");
     Talk.same("the inner one first", t.text(0), "abcdefghi");
+    // Whatever the others meet and handle themselves, it goes on as it was.
+    t = new Talk();
+    t.fails("(unwind-protect (signal 'mine 5) (condition-case nil (/ 1 0) (error 1)) (catch 'b (throw 'b 2)))", "mine: 5");
+    t.is("(catch 'a (unwind-protect (throw 'a 1) (condition-case nil (car 6) (error 2)) (catch 'b (throw 'b 3)) (catch 'a (throw 'a 4))))", "1");
+    t.is("(condition-case e (unwind-protect (error \"text\") (condition-case e (car 6) (error e))) (error e))", "(error . \"text\")");
+    t.is("(unwind-protect 1 (condition-case nil (car 6) (error 2)) (catch 'a (throw 'a 3)))", "1");
   }
 
   /** Then the current buffer is what it was, and its point where it was, however it is left. */
@@ -289,6 +297,12 @@ public final class EdgeSpecialFormTest {
     t.is("(progn (save-excursion (delete-region 4 7)) (point))", "4");
     t.is("(progn (save-excursion (delete-region 1 (point-max))) (point))", "1");
     t.is("(progn (save-excursion (undo)) (point))", "1");
+    // An error or throw that is held within does not end it.
+    t = Talk.after("(insert \"abcdef\") (buffer \"o\")");
+    t.is("(progn (goto-char 2) (save-excursion (goto-char 1) (condition-case nil (list (car 5)) (error 1)) (catch 'a (list (throw 'a 1))) (goto-char 3)) (point))", "2");
+    t.is("(save-excursion (goto-char 4) (condition-case nil (save-excursion (goto-char 5) (set-buffer \"o\") (list (car 5))) (error 1)) (list (point) (current-buffer)))", "(4 #buffer main)");
+    t.is("(progn (goto-char 6) (save-excursion (set-buffer \"o\") (catch 'a (save-excursion (set-buffer \"main\") (goto-char 1) (list (throw 'a 1)))) (list (current-buffer))))", "(#buffer o)");
+    Talk.same("the outer one puts main's point back", t.box.buffer(0, 0), 6);
     // The windows' places are others.
     t = Talk.after("(insert \"1\\n2\\n3\\n4\\n5\\n\") (goto-char 7) (set-window-start 5) (split-below) (other-window) (goto-char 9) (set-window-start 3) (other-window)");
     t.does("(save-excursion (goto-char 1) (save-excursion (goto-char 2) (insert ?x) (save-excursion (goto-char 3) (insert ?y))))");
@@ -330,6 +344,9 @@ public final class EdgeSpecialFormTest {
     t.is("(run (list 'cond '((setcar (cdr (cdr f)) 5) 1) '(2)))", "1");
     t.is("(run (list 'cond '((progn (setcar (cdr (cdr f)) '(1 . 2)) nil)) '(2)))", "bad-form");
     t.is("(run (list 'cond '((progn (setcdr (cdr f) 5) nil)) '(2)))", "nil");
+    t.is("(run (list 'condition-case nil '(progn (setcar (cdr (cdr (cdr f))) nil) (car 5)) '(error 1)))", "bad-form");
+    t.is("(run (list 'condition-case nil '(progn (setcar (cdr (cdr (cdr f))) '(error . 1)) (car 5)) '(error 1)))", "bad-form");
+    t.is("(run (list 'condition-case nil '(progn (setcar (cdr (cdr (cdr (cdr f)))) nil) (car 5)) '(error 1) '(error 2)))", "1");
     t.is("(run (list 'defvar 'newly '(progn (setcar (cdr f) 'b) (setcdr (cdr f) nil) 6)))", "newly");
     t.is("newly", "6");
   }
