@@ -23,6 +23,8 @@ public final class EdgeBufferTest {
     markers();
     faces();
     modified();
+    whatAnswersNil();
+    stringsStay();
     Talk.end();
   }
 
@@ -337,5 +339,21 @@ public final class EdgeBufferTest {
     t.does("(set-modified nil)");
     t.box.key('k');
     Talk.same("a key", t.box.buffer(0, 2), 1);
+  }
+
+  /** What is not told to answer something answers NIL. */
+  private static void whatAnswersNil() {
+    Talk t = Talk.after("(insert \"abc\\ndef\") (goto-char 2)");
+    t.is("(list (insert \"x\") (insert) (delete-region 1 2) (delete-region 1 1) (forward-char) (forward-char 0) (beginning-of-line) (end-of-line))",
+        "(nil nil nil nil nil nil nil nil)");
+    t.is("(list (put-face 1 2 3) (boundary) (while nil) (progn))", "(nil nil nil nil)");
+  }
+
+  /** A string is never changed: what it was made from may be. */
+  private static void stringsStay() {
+    Talk t = Talk.after("(insert \"abc\") (setq r (region 1 4) n (buffer-name \"main\") s \"xyz\" p (print '(1 2)))");
+    t.does("(delete-region 1 4) (insert s r) (setq u (concat s r))");
+    t.does("(delete-region 1 (point-max)) (insert \"other\")");
+    t.is("(list r n s u p (substring u 1 5))", "(\"abc\" \"main\" \"xyz\" \"xyzabc\" \"(1 2)\" \"yzab\")");
   }
 }
