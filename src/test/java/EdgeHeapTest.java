@@ -1,5 +1,7 @@
 /** Terms, THE HEAP: 6000 cells, what is made whole or not at all, what is reached, 40 markers. */
 public final class EdgeHeapTest {
+  private static final String MARKERS = "(setq ms nil) (defun make (n) (while (< 0 n) (setq n (- n 1) ms (cons (marker 1) ms))))";
+
   public static void main(String[] args) {
     cellsOfEach();
     sizesOfStrings();
@@ -134,7 +136,7 @@ public final class EdgeHeapTest {
     }
     int[][] nested = {{1, 1}, {2, 0}, {3, 1}, {4, 0}, {5, 1}, {6, 2}, {7, 0}};
     for (int[] pair : nested) {
-      // "ab" 2, (5 6) 2, then the three of (+ ..).
+      // "ab" takes 2, '5 2, then (progn ..) 3.
       Talk t = Cells.read("(progn \"ab\" '5)", pair[0]);
       Talk.same("nested with " + pair[0], t.message(), pair[0] < 7 ? "heap-full" : "");
       Talk.same("left of " + pair[0], Cells.left(t), pair[1]);
@@ -280,8 +282,6 @@ public final class EdgeHeapTest {
     t = Cells.evaluated("(setq got 0)", "(condition-case t (list 1 2) (heap-full (setq got 1)))", 1);
     Talk.same("with room", t.message(), "constant: t");
   }
-
-  private static final String MARKERS = "(setq ms nil) (defun make (n) (while (< 0 n) (setq n (- n 1) ms (cons (marker 1) ms))))";
 
   /** At most 40 markers: error too-many-markers NIL. */
   private static void fortyMarkers() {

@@ -74,11 +74,11 @@ public final class EdgeValueTest {
   /** Beside the names told here. */
   private static void toldNames() {
     Talk t = new Talk();
-    StringBuilder half = new StringBuilder();
+    StringBuilder all = new StringBuilder();
     for (int i = 0; i < Names.TOLD.length; i++) {
-      half.append(' ').append(Names.TOLD[i]);
+      all.append(' ').append(Names.TOLD[i]);
     }
-    t.does("'(" + half + ")");
+    t.does("'(" + all + ")");
     Talk.same("told names are none", t.box.about(3), 0);
     Talk.same("so many cells", t.box.about(2), Names.TOLD.length + 2);
     t.does("(intern \"car\") (intern \"nil\") (intern \"heap-full\")");
